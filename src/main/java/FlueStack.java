@@ -1109,15 +1109,18 @@ public final class FlueStack {
         /** Tries all columns in a course for hearths that stood in a, b and c one course below. */
         private int leastRest(int course, int a, int b, int c) {
             int least = FAR;
-            for (int x = lowest(0, course, a); x <= highest(0, course, a); x++) {
+            int mostX = highest(0, course, a);
+            int mostY = highest(1, course, b);
+            int mostZ = highest(2, course, c);
+            for (int x = lowest(0, course, a); x <= mostX; x++) {
                 if (!stands(0, course, x)) {
                     continue;
                 }
-                for (int y = lowest(1, course, b); y <= highest(1, course, b); y++) {
+                for (int y = lowest(1, course, b); y <= mostY; y++) {
                     if (!stands(1, course, y) || !apart(0, 1, course, a - b, x - y)) {
                         continue;
                     }
-                    for (int z = lowest(2, course, c); z <= highest(2, course, c); z++) {
+                    for (int z = lowest(2, course, c); z <= mostZ; z++) {
                         if (!stands(2, course, z) || !apart(0, 2, course, a - c, x - z)
                                 || !apart(1, 2, course, b - c, y - z)) {
                             continue;

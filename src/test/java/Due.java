@@ -10,7 +10,7 @@ final class Due {
         checks++;
         if (got != want) {
             wrong++;
-            if (wrong <= 50) {
+            if (wrong <= 20) {
                 System.out.println(call + " answered " + got + ", due is " + want);
             }
         }
@@ -20,8 +20,8 @@ final class Due {
         checks++;
         if (!got.equals(want)) {
             wrong++;
-            if (wrong <= 50) {
-                System.out.println(call + " answered " + got + ", due is " + want);
+            if (wrong <= 20) {
+                System.out.println(call + " answered\n  " + got + ", due is\n  " + want);
             }
         }
     }
