@@ -361,15 +361,19 @@ public final class FlueStack {
     private int fewestMoved(int columns) {
         for (int size = 0; size <= bricks.hearths; size++) {
             for (int set = 0; set < 1 << bricks.hearths; set++) {
-                if (Integer.bitCount(set) == size && canMove(set, columns)) {
-                    return set;
+                if (Integer.bitCount(set) == size) {
+                    putAllMoving(set, columns);
+                    if (search.succeeds()) {
+                        return set;
+                    }
                 }
             }
         }
         return NONE;
     }
 
-    private boolean canMove(int set, int columns) {
+    /** All hearths: those of the set may get other ways, the others keep theirs of the plan. */
+    private void putAllMoving(int set, int columns) {
         search.prepare(bricks, tunes[GAP], columns);
         for (int h = 0; h < bricks.hearths; h++) {
             search.put(h, bricks.courses[h], bricks.columns[h]);
@@ -377,7 +381,6 @@ public final class FlueStack {
                 search.fix(h, scheme);
             }
         }
-        return search.succeeds();
     }
 
     // ---- marks, kinds, images
@@ -580,38 +583,39 @@ public final class FlueStack {
         }
     }
 
-    /** Reads a wall from a text, token by token; the token at hand is the fault when something fails. */
+    /** Reads a wall from a text: parts it in tokens, then takes these one by one; the one at hand is the fault. */
     private static final class Reader {
-        private static final int NOTHING = 0, SIZE = 1, BEAM = 2, COLD = 3, HEARTH = 4, NUMBER = 5, CLOSE = 6, END = 7;
+        private static final int NOTHING = 0, SIZE = 1, BEAM = 2, COLD = 3, HEARTH = 4, NUMBER = 5, CLOSE = 6;
         private static final int MOST_NUMBER = 99;
 
         private byte[] bytes = new byte[0];
         private int length;
         private int next;
-        private int begin;
-        private int token;
+        private final int[] kinds = new int[MOST_BYTES];
+        private final int[] places = new int[MOST_BYTES];
+        private final int[] values = new int[MOST_BYTES];
+        private int tokens;
+        private int hand;
         private int value;
 
         /** The fault, or NONE. */
         int read(byte[] from, int size, Wall wall) {
             bytes = from;
             length = Math.min(size, from.length);
-            next = 0;
+            part();
             wall.reset();
-            advance();
-            for (int items = 0; items <= length && token != END; items++) {
-                if (!readItem(wall, items == 0)) {
-                    return begin;
+            for (hand = 0; hand < tokens; hand++) {
+                if (!readItem(wall)) {
+                    return hand < tokens ? places[hand] : length;
                 }
-                advance();
             }
             return NONE;
         }
 
-        private boolean readItem(Wall wall, boolean first) {
-            switch (token) {
+        private boolean readItem(Wall wall) {
+            switch (kinds[hand]) {
                 case SIZE:
-                    return first && readSize(wall) && readClose();
+                    return hand == 0 && readSize(wall) && readClose();
                 case BEAM:
                     return readBeam(wall) && readClose();
                 case COLD:
@@ -685,17 +689,84 @@ public final class FlueStack {
         }
 
         private boolean readNumber(int least, int most) {
-            advance();
-            return token == NUMBER && value >= least && value <= most;
+            hand++;
+            if (hand >= tokens || kinds[hand] != NUMBER) {
+                return false;
+            }
+            value = values[hand];
+            return value >= least && value <= most;
         }
 
         private boolean readClose() {
-            advance();
-            return token == CLOSE;
+            hand++;
+            return hand < tokens && kinds[hand] == CLOSE;
         }
 
-        private int byteAt(int place) {
-            return place >= 0 && place < length && place < bytes.length ? bytes[place] & 255 : -1;
+        private void part() {
+            tokens = 0;
+            next = 0;
+            while (next < length && tokens < MOST_BYTES) {
+                if (byteAt(next) == ' ') {
+                    next++;
+                } else {
+                    places[tokens] = next;
+                    kinds[tokens] = partToken();
+                    values[tokens] = value;
+                    tokens++;
+                }
+            }
+        }
+
+        /** What kind of token begins at the next byte; behind it the next one is. */
+        private int partToken() {
+            int begin = next;
+            if (letterAt(begin)) {
+                return partWord(begin);
+            }
+            if (digitAt(begin)) {
+                return partNumber(begin);
+            }
+            next++;
+            return byteAt(begin) == ';' ? CLOSE : NOTHING;
+        }
+
+        private int partWord(int begin) {
+            while (next < length && letterAt(next)) {
+                next++;
+            }
+            if (wordIs(begin, "size")) {
+                return SIZE;
+            }
+            if (wordIs(begin, "beam")) {
+                return BEAM;
+            }
+            if (wordIs(begin, "cold")) {
+                return COLD;
+            }
+            return wordIs(begin, "hearth") ? HEARTH : NOTHING;
+        }
+
+        private boolean wordIs(int begin, String word) {
+            if (next - begin != word.length()) {
+                return false;
+            }
+            for (int i = 0; i < word.length(); i++) {
+                if (byteAt(begin + i) != word.charAt(i)) {
+                    return false;
+                }
+            }
+            return true;
+        }
+
+        private int partNumber(int begin) {
+            value = 0;
+            while (next < length && digitAt(next)) {
+                // held down, so that three hundred digits don't wrap around into a small number
+                value = Math.min(value * 10 + byteAt(next) - '0', MOST_NUMBER + 1);
+                next++;
+            }
+            boolean zeroAhead = next - begin > 1 && byteAt(begin) == '0';
+            return zeroAhead || value > MOST_NUMBER ? NOTHING : NUMBER;
         }
 
         private boolean letterAt(int place) {
@@ -708,59 +779,8 @@ public final class FlueStack {
             return sign >= '0' && sign <= '9';
         }
 
-        private void advance() {
-            while (next < length && byteAt(next) == ' ') {
-                next++;
-            }
-            begin = next;
-            if (next >= length) {
-                token = END;
-            } else if (letterAt(next)) {
-                advanceWord();
-            } else if (digitAt(next)) {
-                advanceNumber();
-            } else {
-                token = byteAt(next) == ';' ? CLOSE : NOTHING;
-                next++;
-            }
-        }
-
-        private void advanceWord() {
-            while (next < length && letterAt(next)) {
-                next++;
-            }
-            if (wordIs("size")) {
-                token = SIZE;
-            } else if (wordIs("beam")) {
-                token = BEAM;
-            } else if (wordIs("cold")) {
-                token = COLD;
-            } else {
-                token = wordIs("hearth") ? HEARTH : NOTHING;
-            }
-        }
-
-        private boolean wordIs(String word) {
-            if (next - begin != word.length()) {
-                return false;
-            }
-            for (int i = 0; i < word.length(); i++) {
-                if (byteAt(begin + i) != word.charAt(i)) {
-                    return false;
-                }
-            }
-            return true;
-        }
-
-        private void advanceNumber() {
-            value = 0;
-            while (next < length && digitAt(next)) {
-                // held down, so that three hundred digits don't wrap around into a small number
-                value = Math.min(value * 10 + byteAt(next) - '0', MOST_NUMBER + 1);
-                next++;
-            }
-            boolean zeroAhead = next - begin > 1 && byteAt(begin) == '0';
-            token = zeroAhead || value > MOST_NUMBER ? NOTHING : NUMBER;
+        private int byteAt(int place) {
+            return place >= 0 && place < length ? bytes[place] & 255 : -1;
         }
     }
 

@@ -1,3 +1,5 @@
+import java.io.PrintWriter;
+import java.io.StringWriter;
 import java.lang.reflect.Field;
 import java.lang.reflect.Method;
 import java.lang.reflect.Modifier;
@@ -5,11 +7,15 @@ import java.nio.charset.StandardCharsets;
 import java.nio.file.Files;
 import java.nio.file.Path;
 import java.util.ArrayList;
+import java.util.HashMap;
+import java.util.HashSet;
 import java.util.List;
+import java.util.Map;
 import java.util.Set;
 import java.util.TreeSet;
 import java.util.regex.Matcher;
 import java.util.regex.Pattern;
+import java.util.spi.ToolProvider;
 
 /** What of LANGUAGE.md can be seen from the source and the compiled class. */
 public final class LanguageTest {
@@ -28,6 +34,7 @@ public final class LanguageTest {
         String source = Files.readString(Path.of("src/main/java/FlueStack.java"), StandardCharsets.UTF_8);
         words(source);
         lengths(source);
+        depths();
         Due.finish("LanguageTest");
     }
 
@@ -136,5 +143,62 @@ public final class LanguageTest {
                 begin = -1;
             }
         }
+    }
+
+    /** Rule 11: calls that are no recursion go at most eight deep, a call of the library counted, too. */
+    private static void depths() {
+        Map<String, Set<String>> calls = calls();
+        Due.due("all calls of the face are seen", calls.keySet().stream().filter(m -> m.startsWith("FlueStack.")).count() > 27
+                ? 1 : 0, 1);
+        Due.due("calls inside are seen", calls.get("FlueStack.wall").contains("FlueStack$Reader.read") ? 1 : 0, 1);
+        for (Method method : FlueStack.class.getDeclaredMethods()) {
+            String name = "FlueStack." + method.getName();
+            List<String> chain = longest(name, calls, new HashSet<>(Set.of(name)));
+            Due.due("not too deep " + String.join(" > ", chain), chain.size() <= 8 ? 1 : 0, 1);
+        }
+    }
+
+    /** The longest chain of calls in which none comes twice. */
+    private static List<String> longest(String name, Map<String, Set<String>> calls, Set<String> open) {
+        List<String> best = new ArrayList<>();
+        for (String next : calls.getOrDefault(name, Set.of())) {
+            if (open.add(next)) {
+                List<String> chain = longest(next, calls, open);
+                open.remove(next);
+                best = chain.size() > best.size() ? chain : best;
+            }
+        }
+        List<String> all = new ArrayList<>(List.of(name));
+        all.addAll(best);
+        return all;
+    }
+
+    /** Which methods each method of the compiled classes calls, as javap tells it. */
+    private static Map<String, Set<String>> calls() {
+        Map<String, Set<String>> calls = new HashMap<>();
+        List<Class<?>> all = new ArrayList<>(List.of(FlueStack.class.getDeclaredClasses()));
+        all.add(FlueStack.class);
+        Pattern head = Pattern.compile("^  (?! )[^(]*?([\\w$]+)\\(.*\\);$");
+        Pattern call = Pattern.compile("invoke\\w+ .*// (?:Interface)?Method (?:([\\w/$]+)\\.)?\"?([\\w<>$]+)\"?:");
+        for (Class<?> type : all) {
+            StringWriter told = new StringWriter();
+            PrintWriter to = new PrintWriter(told);
+            ToolProvider.findFirst("javap").orElseThrow().run(to, to, "-c", "-p", "-cp",
+                    System.getProperty("java.class.path"), type.getName());
+            String method = "";
+            for (String line : told.toString().split("\\R")) {
+                Matcher m = head.matcher(line);
+                if (m.find()) {
+                    method = type.getName() + "." + m.group(1);
+                    calls.putIfAbsent(method, new HashSet<>());
+                }
+                m = call.matcher(line);
+                if (m.find()) {
+                    String owner = m.group(1) == null ? type.getName() : m.group(1).replace('/', '.');
+                    calls.get(method).add(owner + "." + m.group(2));
+                }
+            }
+        }
+        return calls;
     }
 }
