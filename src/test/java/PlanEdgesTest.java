@@ -28,6 +28,7 @@ public final class PlanEdgesTest {
         mendedInAnyQuarter();
         doors();
         moved();
+        movedLeastSet();
         movedOfNone();
         movedColumns();
         marks();
@@ -219,6 +220,7 @@ public final class PlanEdgesTest {
         judged("column W", x, 1, 0, 4);
         x.turn(0, 1, 1);
         judged("column W before", x, 1, 0, 3);
+        judged("its own brick in course 0", told("size 4 5;beam 0 1 1;hearth 0 1 0;"), 2, 0, 0);
         judged("its own brick", told("size 4 5;beam 2 1 1;beam 3 1 1;hearth 2 1 0;"), 2, 0, 2);
         judged("below its own", told("size 4 5;beam 1 1 1;hearth 2 1 0;"), NONE, NONE, NONE);
         judged("in the last course", told("size 4 5;beam 4 0 3;hearth 0 1 0;"), 2, 0, 4);
@@ -239,6 +241,8 @@ public final class PlanEdgesTest {
                 judged("to the left, GAP " + gap + ", apart " + apart, x, near, near == 3 ? 1 : NONE, near == 3 ? 3 : NONE);
             }
         }
+        judged("in course 0", told("hearth 0 4 0;hearth 0 5 0;"), 3, 1, 0);
+        judged("in course 0, to the left", told("hearth 0 4 0;hearth 0 3 0;"), 3, 1, 0);
         // the third one is too near to either of the two
         judged("near to 0", told("hearth 0 0 0;hearth 0 5 0;hearth 4 1 0;"), 3, 2, 4);
         judged("near to 1", told("hearth 0 0 0;hearth 0 5 0;hearth 4 6 0;"), 3, 2, 4);
@@ -260,6 +264,16 @@ public final class PlanEdgesTest {
         x.turn(0, 4, 1);
         x.turn(1, 4, 1);
         judged("both lean", x, NONE, NONE, NONE);
+        x = told("size 6 5;hearth 0 3 0;hearth 0 2 0;");
+        x.tune(0, 0);
+        judged("side by side, the greater one to the left", x, NONE, NONE, NONE);
+        for (int r = 1; r <= 4; r++) {
+            x.turn(0, r, -1);
+            x.turn(1, r, 1);
+            judged("crossed to the right", x, 4, 1, r);
+            x.turn(0, r, 0);
+            x.turn(1, r, 0);
+        }
         // where one begins, the other one has no side yet: it came from the right to its left
         x = told("size 6 5;hearth 0 3 0;hearth 2 2 0;");
         x.tune(0, 0);
@@ -269,6 +283,15 @@ public final class PlanEdgesTest {
         x.turn(0, 3, 1);
         x.turn(1, 3, -1);
         judged("crossed a course later", x, 4, 1, 3);
+        // it stood in the column where the other one begins, and leaves it to either side
+        for (int side = -1; side <= 1; side += 2) {
+            for (int first = 0; first <= 1; first++) {
+                x = told(first == 0 ? "size 6 5;hearth 0 2 0;hearth 2 2 0;" : "size 6 5;hearth 2 2 0;hearth 0 2 0;");
+                x.tune(0, 0);
+                x.turn(first, 2, side);
+                judged("begun where it stood", x, NONE, NONE, NONE);
+            }
+        }
         // a third one crosses the second
         x = told("size 6 5;hearth 0 0 0;hearth 0 2 0;hearth 0 3 0;");
         x.tune(0, 0);
@@ -546,10 +569,34 @@ public final class PlanEdgesTest {
         x = told("size 6 3;hearth 0 2 0;hearth 0 5 0;");
         x.turn(0, 2, 1);
         moved("one, and the other one stays", x, 1 << 3, 1, 1);
-        // of several sets the least: 0 has to leave its column, and 1 or 2 has to make room
-        x = told("size 5 3;beam 2 1 1;hearth 0 2 0;hearth 0 4 0;hearth 0 0 0;");
-        moved("well as it is", x, 0, 0, 0);
-        due("no more than its own", x.moved(1 << 3, 1), 0);
+    }
+
+    private static void movedLeastSet() {
+        // one leans to column 8 and has to stay on its left; then either the one that begins in course 4 has to stand
+        // straight, or the one in column 2 to make room: for it can get by on the left of the other
+        String[] all = {"hearth 0 7 0;", "hearth 0 2 0;", "hearth 4 5 0;"};
+        int[][] orders = {{0, 1, 2}, {0, 2, 1}, {1, 0, 2}, {1, 2, 0}, {2, 0, 1}, {2, 1, 0}};
+        int[] due = {3, 3, 3, 5, 3, 5};
+        for (int i = 0; i < 6; i++) {
+            StringBuilder text = new StringBuilder("size 10 7;");
+            int leans = 0, begins = 0, low = 0;
+            for (int h = 0; h < 3; h++) {
+                text.append(all[orders[i][h]]);
+                leans = orders[i][h] == 0 ? h : leans;
+                low = orders[i][h] == 1 ? h : low;
+                begins = orders[i][h] == 2 ? h : begins;
+            }
+            FlueStack x = told(text.toString());
+            x.turn(leans, 1, 1);
+            x.turn(begins, 5, 1);
+            moved("well as it is", x, 0, 0, 0);
+            moved("order " + i + ", of two sets the least", x, 1 << 8, 2, due[i]);
+            x.turn(begins, 5, 0);
+            moved("order " + i + ", that one alone", x, 1 << 8, 1, 1 << leans);
+            x.turn(begins, 5, 1);
+            x.turn(low, 4, -1);
+            moved("order " + i + ", that one alone again", x, 1 << 8, 1, 1 << leans);
+        }
     }
 
     private static void movedOfNone() {
@@ -723,6 +770,18 @@ public final class PlanEdgesTest {
         x.turn(0, 3, -1);
         due("back 0 again", x.back(0), 1);
         ways("image 0 again", x, 0, 3, 4, 4, 4);
+        // MARKS come back with their places, when others have been made there
+        for (int other = 0; other <= 1; other++) {
+            x = told("size 6 4;hearth 0 3 30;");
+            x.keep(1);
+            x.mark(1, 2);
+            x.keep(0);
+            x.back(1);
+            x.mark(other == 0 ? 1 : 2, other == 0 ? 4 : 2);
+            due("by another MARK", x.guess(0), other == 0 ? 8 : 6);
+            x.back(0);
+            due("by the first MARK", x.guess(0), 9);
+        }
         due("no image 2", x.keep(2), BAD);
         due("no image 2", x.back(2), BAD);
         due("no image -1", x.keep(-1), BAD);

@@ -445,6 +445,14 @@ public final class TextEdgesTest {
                         due < 0 ? hearths : -10 - place);
             }
         }
+        // what was read before is not there any more: each cut is read behind the whole
+        for (int length = 0; length <= text.length(); length++) {
+            FlueStack x = Due.told(text);
+            Due.write(x, text.substring(0, length));
+            int due = faultOfCut(text, length);
+            due("cut at " + length + ", behind the whole", x.wall(),
+                    due >= 0 ? -10 - due : length == text.length() ? 1 : 0);
+        }
         fault("size 10 16^");
         fault("size 10 16    ^");
         fault("hearth 8 9 99^");

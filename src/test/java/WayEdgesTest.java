@@ -170,6 +170,12 @@ public final class WayEdgesTest {
         for (int r = -2; r <= 2; r++) {
             due("NONE in " + r, x.one(0, r), NONE);
         }
+        x = told("size 3 3;beam 0 1 1;beam 1 1 1;hearth 0 1 0;hearth 1 1 0;");
+        for (int h = 0; h <= 1; h++) {
+            for (int r = -2; r <= 2; r++) {
+                due("its own brick is barred, NONE in " + r, x.one(h, r), h == 1 && r == 0 ? BAD : NONE);
+            }
+        }
         due("BAD ahead of NONE", x.one(0, 3), BAD);
         due("BAD ahead of NONE", x.one(0, -3), BAD);
         x = told("size 3 3;beam 2 2 2;hearth 1 2 0;hearth 1 2 0;beam 2 1 1;");
