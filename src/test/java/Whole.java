@@ -87,7 +87,9 @@ final class Whole {
     }
 
     private void text() {
-        add("read", x.wall());
-        wall();
+        if (x.count(4) > 0) {
+            add("read", x.wall());
+            wall();
+        }
     }
 }
