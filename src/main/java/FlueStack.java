@@ -156,7 +156,7 @@ public final class FlueStack {
             return BAD;
         }
         putSet(set);
-        if (!search.succeeds()) {
+        if (!search.findsBest()) {
             return NONE;
         }
         return what == 0 ? search.breadth() : search.leans();
@@ -182,7 +182,7 @@ public final class FlueStack {
         int first = NONE;
         for (int column = 0; column < bricks.width; column++) {
             search.put(guest, course, column);
-            if (search.succeeds()) {
+            if (search.findsAny()) {
                 number++;
                 first = first == NONE ? column : first;
             }
@@ -217,7 +217,7 @@ public final class FlueStack {
             for (int set = 1; set < 1 << bricks.hearths; set++) {
                 if (Integer.bitCount(set) == size) {
                     putSet(set);
-                    if (search.succeeds()) {
+                    if (search.findsAny()) {
                         return set;
                     }
                 }
@@ -233,7 +233,7 @@ public final class FlueStack {
             return BAD;
         }
         putSet(set);
-        if (!search.succeeds()) {
+        if (!search.findsBest()) {
             return STATE;
         }
         search.tell(scheme);
@@ -363,7 +363,7 @@ public final class FlueStack {
             for (int set = 0; set < 1 << bricks.hearths; set++) {
                 if (Integer.bitCount(set) == size) {
                     putAllMoving(set, columns);
-                    if (search.succeeds()) {
+                    if (search.findsAny()) {
                         return set;
                     }
                 }
@@ -1023,48 +1023,60 @@ public final class FlueStack {
         private static final int STATES = 1000;
         private static final int A_COLUMN = 100;
         private static final int FAR = 1000000000;
+        private static final int ALL_COLUMNS = (1 << MOST_COLUMNS) - 1;
+        private static final int NOT_THERE = 1;
 
         // for each course and each state in the course below it; 0 where nothing is known yet
-        private final int[][] known = new int[MOST_COURSES][STATES];
-        private final int[] open = new int[MOST_COURSES];
+        private final int[][] known = new int[MOST_COURSES + 1][STATES];
+        private final int[] free = new int[MOST_COURSES];
+        // for each hearth and course: bits of the columns in which it may be
+        private final int[][] open = new int[MOST_HEARTHS][MOST_COURSES];
         private final int[] firsts = new int[MOST_HEARTHS];
-        private final int[] starts = new int[MOST_HEARTHS];
-        private final int[][] given = new int[MOST_HEARTHS][MOST_COURSES];
-        private final boolean[] fixed = new boolean[MOST_HEARTHS];
         private int last;
         private int gap;
+        private boolean anyWillDo;
 
         void prepare(Wall wall, int leastGap, int closed) {
             last = wall.height - 1;
             gap = leastGap;
             for (int course = 0; course <= last; course++) {
-                open[course] = wall.freeColumns(course) & ~closed;
+                free[course] = wall.freeColumns(course) & ~closed;
             }
             for (int h = 0; h < MOST_HEARTHS; h++) {
                 firsts[h] = MOST_COURSES;
-                fixed[h] = false;
+                Arrays.fill(open[h], NOT_THERE);
             }
-            forgetUpTo(last);
+            forgetUpTo(last + 1);
         }
 
         void put(int h, int course, int column) {
             firsts[h] = course;
-            starts[h] = column;
+            System.arraycopy(free, course, open[h], course, MOST_COURSES - course);
+            open[h][course] &= 1 << column;
         }
 
+        /** Leaves a hearth its way of the plan alone. */
         void fix(int h, Scheme scheme) {
-            System.arraycopy(scheme.columns[h], 0, given[h], 0, MOST_COURSES);
-            fixed[h] = true;
+            for (int course = firsts[h]; course <= last; course++) {
+                open[h][course] &= 1 << scheme.columns[h][course];
+            }
         }
 
         /** Where a hearth begins matters up to its own course only: what is known above that stays good. */
         void forgetUpTo(int top) {
-            for (int course = 0; course <= top && course < MOST_COURSES; course++) {
+            for (int course = 0; course <= top && course <= MOST_COURSES; course++) {
                 Arrays.fill(known[course], 0);
             }
         }
 
-        boolean succeeds() {
+        /** Whether there are ways at all: the first that are found will do. */
+        boolean findsAny() {
+            anyWillDo = true;
+            return restFrom(0, 0) < FAR;
+        }
+
+        boolean findsBest() {
+            anyWillDo = false;
             return restFrom(0, 0) < FAR;
         }
 
@@ -1099,16 +1111,14 @@ public final class FlueStack {
             return h == 1 ? state / 10 % 10 : state % 10;
         }
 
-        /** The best rest from a course on; it asks the next course, and the last one asks none. */
+        /** The best rest from a course on; it asks the next course, and none above the last one asks. */
         private int restFrom(int course, int state) {
-            if (course < 0 || state < 0 || state >= STATES) {
+            if (course < 0 || course > MOST_COURSES || state < 0 || state >= STATES) {
                 return FAR;
             }
-            if (course > last) {
-                return breadthOf(state) * A_COLUMN * STATES;
-            }
             if (known[course][state] == 0) {
-                known[course][state] = leastRest(course, columnIn(state, 0), columnIn(state, 1), columnIn(state, 2));
+                known[course][state] = course > last ? breadthOf(state) * A_COLUMN * STATES
+                        : leastRest(course, columnIn(state, 0), columnIn(state, 1), columnIn(state, 2));
             }
             return known[course][state];
         }
@@ -1130,23 +1140,31 @@ public final class FlueStack {
         private int leastRest(int course, int a, int b, int c) {
             int least = FAR;
             int mostX = highest(0, course, a);
+            int leastY = lowest(1, course, b);
             int mostY = highest(1, course, b);
+            int leastZ = lowest(2, course, c);
             int mostZ = highest(2, course, c);
             for (int x = lowest(0, course, a); x <= mostX; x++) {
-                if (!stands(0, course, x)) {
+                if ((open[0][course] >> x & 1) == 0) {
                     continue;
                 }
-                for (int y = lowest(1, course, b); y <= mostY; y++) {
-                    if (!stands(1, course, y) || !apart(0, 1, course, a - b, x - y)) {
+                int ys = open[1][course] & leftBy(0, x, 1, course, a < b);
+                int zs = open[2][course] & leftBy(0, x, 2, course, a < c);
+                for (int y = leastY; y <= mostY; y++) {
+                    if ((ys >> y & 1) == 0) {
                         continue;
                     }
-                    for (int z = lowest(2, course, c); z <= mostZ; z++) {
-                        if (!stands(2, course, z) || !apart(0, 2, course, a - c, x - z)
-                                || !apart(1, 2, course, b - c, y - z)) {
+                    int zsLeft = zs & leftBy(1, y, 2, course, b < c);
+                    int leans = lean(0, course, x - a) + lean(1, course, y - b);
+                    for (int z = leastZ; z <= mostZ; z++) {
+                        if ((zsLeft >> z & 1) == 0) {
                             continue;
                         }
-                        int leans = lean(0, course, x - a) + lean(1, course, y - b) + lean(2, course, z - c);
-                        least = Math.min(least, restBy(course, x * 100 + y * 10 + z, leans));
+                        int all = leans + lean(2, course, z - c);
+                        least = Math.min(least, restBy(course, x * 100 + y * 10 + z, all));
+                        if (anyWillDo && least < FAR) {
+                            return least;
+                        }
                     }
                 }
             }
@@ -1159,40 +1177,27 @@ public final class FlueStack {
         }
 
         private int lowest(int h, int course, int below) {
-            return onlyOne(h, course) ? onlyColumn(h, course) : below - 1;
+            return course > firsts[h] ? Math.max(0, below - 1) : 0;
         }
 
         private int highest(int h, int course, int below) {
-            return onlyOne(h, course) ? onlyColumn(h, course) : below + 1;
-        }
-
-        private boolean onlyOne(int h, int course) {
-            return fixed[h] || course <= firsts[h];
-        }
-
-        private int onlyColumn(int h, int course) {
             if (course < firsts[h]) {
                 return 0;
             }
-            return fixed[h] ? given[h][course] : starts[h];
+            return course > firsts[h] ? Math.min(MOST_COLUMNS - 1, below + 1) : MOST_COLUMNS - 1;
         }
 
-        private boolean stands(int h, int course, int column) {
-            if (course < firsts[h]) {
-                return true;
-            }
-            return column >= 0 && column < MOST_COLUMNS && (open[course] >> column & 1) != 0;
-        }
-
-        /** Whether two hearths keep the gap in a course, and their order since the one below. */
-        private boolean apart(int g, int h, int course, int before, int after) {
+        /** Bits of the columns that a hearth in its own leaves to another one: off the gap, and where that was. */
+        private int leftBy(int g, int column, int h, int course, boolean wasLeft) {
             if (course < firsts[g] || course < firsts[h]) {
-                return true;
+                return ALL_COLUMNS;
             }
-            if (Math.abs(after) <= gap) {
-                return false;
+            int lesser = (1 << Math.max(0, column - gap)) - 1;
+            int greater = ALL_COLUMNS << (column + gap + 1);
+            if (course == firsts[g] || course == firsts[h]) {
+                return lesser | greater;
             }
-            return course == firsts[g] || course == firsts[h] || (before < 0) == (after < 0);
+            return wasLeft ? greater : lesser;
         }
 
         private int lean(int h, int course, int step) {

@@ -23,6 +23,8 @@ final class Model {
     long trace = 0;
     /** Whether ways together are all written out, or found from below, the best for each row of columns. */
     boolean writtenOut = true;
+    /** While ways are found from below for moved(): columns that are barred, flues that keep their ways. */
+    private int closed = 0, keeping = 0;
 
     // ---- the wall
 
@@ -305,6 +307,7 @@ final class Model {
             return;
         }
         for (int c = 0; c < w; c++) {
+            if ((closed >> c & 1) != 0 || ((keeping >> i & 1) != 0 && plan.get(i)[r] != c)) continue;
             if (barred[r][c] || (r == owns[i] ? c != starts[i] : Math.abs(c - ways[i][r - 1]) > 1)) continue;
             boolean well = true;
             for (int k = 0; k < i && well; k++) {
@@ -482,6 +485,7 @@ final class Model {
     int moved(int columns, int what) {
         if (columns < 0 || columns > 1023 || what < 0 || what > 1) return BAD;
         if (trouble() != null) return STATE;
+        if (!writtenOut) return movedFromBelow(columns, what);
         int least = -1;
         for (int set = 0; set < 1 << hearths.size(); set++) {
             if (least >= 0 && Integer.bitCount(set) >= Integer.bitCount(least)) continue;
@@ -495,7 +499,25 @@ final class Model {
             }
             if (best(flues) != null) least = set;
         }
-        return least < 0 ? NONE : what == 0 ? Integer.bitCount(least) : least;
+        return told(least, what);
+    }
+
+    private int movedFromBelow(int columns, int what) {
+        int[] owns = hearths.stream().mapToInt(p -> p[0]).toArray(), starts = hearths.stream().mapToInt(p -> p[1]).toArray();
+        int least = -1;
+        for (int set = 0; set < 1 << hearths.size(); set++) {
+            if (least >= 0 && Integer.bitCount(set) >= Integer.bitCount(least)) continue;
+            closed = columns;
+            keeping = ~set;
+            if (bestFromBelow(owns, starts) != null) least = set;
+            closed = 0;
+            keeping = 0;
+        }
+        return told(least, what);
+    }
+
+    private static int told(int set, int what) {
+        return set < 0 ? NONE : what == 0 ? Integer.bitCount(set) : set;
     }
 
     // ---- marks, kinds, images

@@ -96,8 +96,8 @@ public final class ModelTest {
         m.writtenOut = false;
         write(wallText(6, 10, 10, 16));
         same("wall()", x.wall(), m.wall());
-        int[] kinds = {4, 12, 12, 13, 14, 16, 17, 18, 20, 21, 21, 24, 27};
-        for (int i = 0; i < 12; i++) {
+        int[] kinds = {4, 12, 12, 13, 14, 16, 17, 18, 20, 21, 21, 24, 27, 28, 29, 28};
+        for (int i = 0; i < 14; i++) {
             call(kinds[random.nextInt(kinds.length)]);
         }
         wholeState();
