@@ -604,10 +604,12 @@ public final class FlueStack {
             length = Math.min(size, from.length);
             part();
             wall.reset();
-            for (hand = 0; hand < tokens; hand++) {
+            hand = 0;
+            for (int items = 0; items < tokens && hand < tokens; items++) {
                 if (!readItem(wall)) {
                     return hand < tokens ? places[hand] : length;
                 }
+                hand++;
             }
             return NONE;
         }
@@ -847,9 +849,11 @@ public final class FlueStack {
         int course;
 
         boolean findsNone(Wall wall, Scheme scheme, int gap) {
-            for (course = 0; course < wall.height; course++) {
-                for (culprit = 0; culprit < wall.hearths; culprit++) {
-                    trouble = wall.reaches(culprit, course) ? troubleOf(wall, scheme, gap) : WELL;
+            for (int r = 0; r < wall.height; r++) {
+                for (int h = 0; h < wall.hearths; h++) {
+                    trouble = wall.reaches(h, r) ? troubleOf(wall, scheme, gap, h, r) : WELL;
+                    culprit = h;
+                    course = r;
                     if (trouble != WELL) {
                         return false;
                     }
@@ -858,34 +862,34 @@ public final class FlueStack {
             return true;
         }
 
-        private int troubleOf(Wall wall, Scheme scheme, int gap) {
-            int column = scheme.columns[culprit][course];
+        private static int troubleOf(Wall wall, Scheme scheme, int gap, int h, int r) {
+            int column = scheme.columns[h][r];
             if (!wall.hasColumn(column)) {
                 return OUTSIDE;
             }
-            if (!wall.isFree(course, column)) {
+            if (!wall.isFree(r, column)) {
                 return IN_BEAM;
             }
-            for (int other = 0; other < culprit; other++) {
-                if (wall.reaches(other, course) && Math.abs(column - scheme.columns[other][course]) <= gap) {
+            for (int other = 0; other < h; other++) {
+                if (wall.reaches(other, r) && Math.abs(column - scheme.columns[other][r]) <= gap) {
                     return TOO_NEAR;
                 }
             }
-            for (int other = 0; other < culprit; other++) {
-                if (crosses(wall, scheme, other)) {
+            for (int other = 0; other < h; other++) {
+                if (crosses(wall, scheme, h, other, r)) {
                     return CROSSED;
                 }
             }
             return WELL;
         }
 
-        private boolean crosses(Wall wall, Scheme scheme, int other) {
-            if (course <= wall.courses[culprit] || course <= wall.courses[other]) {
+        private static boolean crosses(Wall wall, Scheme scheme, int h, int other, int r) {
+            if (r <= wall.courses[h] || r <= wall.courses[other]) {
                 return false;
             }
-            int[] its = scheme.columns[culprit];
+            int[] its = scheme.columns[h];
             int[] others = scheme.columns[other];
-            return (its[course - 1] < others[course - 1]) != (its[course] < others[course]);
+            return (its[r - 1] < others[r - 1]) != (its[r] < others[r]);
         }
     }
 
